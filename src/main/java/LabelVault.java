@@ -531,7 +531,9 @@ public final class LabelVault {
         }
 
         void zeroFrom(int block, int firstWord) {
-            Arrays.fill(draft, block * WORDS + firstWord, (block + 1) * WORDS, 0);
+            for (int w = firstWord; w < WORDS; w++) {
+                draft[block * WORDS + w] = 0;
+            }
         }
 
         void dropDraft() {
