@@ -1,69 +1,78 @@
 import java.io.IOException;
-import java.nio.file.Files;
 import java.nio.file.Path;
+import java.util.ArrayList;
 import java.util.List;
-import java.util.stream.Collectors;
-import java.util.stream.Stream;
+import java.util.Set;
 
 /**
- * Makes the calls that are written in src/test/runs, a file for each promise. "new" makes a new object; a line
- * "call -> answer" is a call and the answer that is due; "#" begins a comment.
+ * Makes the calls that are written in src/test/runs (long runs) and src/test/edges (a run for each sentence of the
+ * document), with a file for each promise. Behind a call that is refused, or that only looks, nothing may have
+ * changed.
  */
 public final class RunsTest {
-    private static final Path RUNS = Path.of("src", "test", "runs");
+    private static final List<Path> DIRECTORIES = List.of(Path.of("src/test/runs"), Path.of("src/test/edges"));
     private static final int PROMISES = 21;
-    private static final int MOST_CALLS = 512;
+    private static final Set<String> LOOKS = Set.of("flows", "read", "list", "look", "size", "user", "fuse");
 
     private int wrong = 0;
-    private LabelVault vault = null;
-    private int calls = 0;
+    private int runs = 0;
+    private int unchanged = 0;
 
     public static void main(String[] args) throws IOException {
         RunsTest test = new RunsTest();
-        List<Path> files;
-        try (Stream<Path> found = Files.list(RUNS)) {
-            files = found.sorted().collect(Collectors.toList());
+        for (Path directory : DIRECTORIES) {
+            test.runAll(directory);
         }
-        for (int promise = 1; promise <= PROMISES; promise++) {
-            String start = String.format("%02d-", promise);
-            if (files.stream().noneMatch(file -> file.getFileName().toString().startsWith(start))) {
-                test.report("no run for promise " + promise);
-            }
-        }
-        for (Path file : files) {
-            test.runFile(file);
-        }
-        System.out.println(files.size() + " files of runs, " + test.wrong + " wrong");
+        System.out.println(test.runs + " runs, " + test.unchanged + " calls that may change nothing, "
+                + test.wrong + " wrong");
         System.exit(test.wrong == 0 ? 0 : 1);
     }
 
-    private void runFile(Path file) throws IOException {
-        vault = null;
-        int number = 0;
-        for (String line : Files.readAllLines(file)) {
-            number++;
-            String text = line.replaceFirst("#.*", "").trim();
-            if (text.equals("new")) {
-                vault = new LabelVault();
-                calls = 0;
-            } else if (!text.isEmpty()) {
-                runCall(file.getFileName() + ":" + number + ": ", text);
+    private void runAll(Path directory) throws IOException {
+        List<Path> files = Run.filesIn(directory);
+        for (int promise = 1; promise <= PROMISES; promise++) {
+            String start = String.format("%02d-", promise);
+            if (files.stream().noneMatch(file -> file.getFileName().toString().startsWith(start))) {
+                report("no run for promise " + promise + " in " + directory);
+            }
+        }
+        for (Path file : files) {
+            for (Run run : Run.readFrom(file)) {
+                runOne(run);
             }
         }
     }
 
-    private void runCall(String where, String text) {
-        String[] sides = text.split(" -> ");
-        if (sides.length != 2 || vault == null || ++calls > MOST_CALLS) {
-            report(where + "this line can't be run: " + text);
+    private void runOne(Run run) {
+        runs++;
+        if (run.steps().size() > Calls.MOST) {
+            report(run.file() + ": a run of more than " + Calls.MOST + " calls: " + run.quote());
             return;
         }
-        String got = Calls.answer(vault, sides[0]);
-        String due = sides[1].trim();
-        boolean asWritten = due.startsWith("throws.") || due.equals("true") || due.equals("false");
-        String want = asWritten ? due : String.valueOf(Calls.number(due));
-        if (!got.equals(want)) {
-            report(where + sides[0] + " answered " + got + ", due is " + want);
+        LabelVault vault = new LabelVault();
+        List<String> calls = new ArrayList<>();
+        List<String> before = null;
+        for (Run.Step step : run.steps()) {
+            String got = Calls.answer(vault, step.call());
+            if (!got.equals(step.due())) {
+                report(step.where() + ": " + step.call() + " answered " + got + ", due is " + step.due());
+            }
+            if (step.isRefused() || LOOKS.contains(Calls.nameOf(step.call()))) {
+                before = before == null ? Probe.behind(calls) : before;
+                calls.add(step.call());
+                demandUnchanged(step, before, Probe.behind(calls));
+            } else {
+                calls.add(step.call());
+                before = null;
+            }
+        }
+    }
+
+    private void demandUnchanged(Run.Step step, List<String> before, List<String> then) {
+        unchanged++;
+        String difference = Probe.difference(before, then);
+        if (difference != null) {
+            report(step.where() + ": " + step.call() + " may change nothing, but " + difference);
         }
     }
 
