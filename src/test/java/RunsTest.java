@@ -12,10 +12,12 @@ import java.util.Set;
 public final class RunsTest {
     private static final List<Path> DIRECTORIES = List.of(Path.of("src/test/runs"), Path.of("src/test/edges"));
     private static final int PROMISES = 21;
+    // Behind more calls there is too little room left to ask all that can be seen.
+    private static final int MOST_CALLS_TO_PROBE = 400;
     private static final Set<String> LOOKS = Set.of("flows", "read", "list", "look", "size", "user", "fuse");
 
+    private final List<Run> runs = new ArrayList<>();
     private int wrong = 0;
-    private int runs = 0;
     private int unchanged = 0;
 
     public static void main(String[] args) throws IOException {
@@ -23,7 +25,8 @@ public final class RunsTest {
         for (Path directory : DIRECTORIES) {
             test.runAll(directory);
         }
-        System.out.println(test.runs + " runs, " + test.unchanged + " calls that may change nothing, "
+        test.runInPairs();
+        System.out.println(test.runs.size() + " runs, " + test.unchanged + " calls that may change nothing, "
                 + test.wrong + " wrong");
         System.exit(test.wrong == 0 ? 0 : 1);
     }
@@ -44,7 +47,7 @@ public final class RunsTest {
     }
 
     private void runOne(Run run) {
-        runs++;
+        runs.add(run);
         if (run.steps().size() > Calls.MOST) {
             report(run.file() + ": a run of more than " + Calls.MOST + " calls: " + run.quote());
             return;
@@ -57,7 +60,7 @@ public final class RunsTest {
             if (!got.equals(step.due())) {
                 report(step.where() + ": " + step.call() + " answered " + got + ", due is " + step.due());
             }
-            if (step.isRefused() || LOOKS.contains(Calls.nameOf(step.call()))) {
+            if (mayChangeNothing(step) && calls.size() < MOST_CALLS_TO_PROBE) {
                 before = before == null ? Probe.behind(calls) : before;
                 calls.add(step.call());
                 demandUnchanged(step, before, Probe.behind(calls));
@@ -65,6 +68,30 @@ public final class RunsTest {
                 calls.add(step.call());
                 before = null;
             }
+        }
+    }
+
+    private static boolean mayChangeNothing(Run.Step step) {
+        return step.isRefused() || LOOKS.contains(Calls.nameOf(step.call()));
+    }
+
+    /** Two objects that get their calls by turns have nothing to do with each other. */
+    private void runInPairs() {
+        for (int i = 1; i < runs.size(); i++) {
+            List<Run.Step> one = runs.get(i - 1).steps();
+            List<Run.Step> other = runs.get(i).steps();
+            LabelVault first = new LabelVault();
+            LabelVault second = new LabelVault();
+            for (int k = 0; k < Math.max(one.size(), other.size()); k++) {
+                compareBeside(first, one, k);
+                compareBeside(second, other, k);
+            }
+        }
+    }
+
+    private void compareBeside(LabelVault vault, List<Run.Step> steps, int k) {
+        if (k < steps.size() && !Calls.answer(vault, steps.get(k).call()).equals(steps.get(k).due())) {
+            report(steps.get(k).where() + ": " + steps.get(k).call() + " answers otherwise beside another object");
         }
     }
 
